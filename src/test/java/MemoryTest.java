@@ -232,9 +232,10 @@ public final class MemoryTest {
       c.set(k, 1 + k % 3);
     }
     c.vein(2, true);
-    c.vein(0, false);
+    c.vein(1, false);
     c.state(5);
     c.weeks(7);
+    Check.due("another book", c.look(7) > 3, true);
     Check.tell(c, 0, "block 1 x");
     Check.feed(c, "road 1;");
     c.image(false);

@@ -19,7 +19,7 @@ public final class OracleTest {
   }
 
   public static void main(String[] args) {
-    int runs = args.length > 0 ? Integer.parseInt(args[0]) : 1500;
+    int runs = args.length > 0 ? Integer.parseInt(args[0]) : 800;
     int from = args.length > 1 ? Integer.parseInt(args[1]) : 0;
     for (int i = from; i < from + runs && wrong < 5; i++) {
       new OracleTest(i).go();
@@ -59,7 +59,12 @@ public final class OracleTest {
     }
     tell(3, randomPlan());
     settings();
-    while (calls < 180 && !bad) {
+    for (int i = 0; i < 3 && !heavy; i++) {
+      thinkAll();
+      int n = 1 + upTo(2);
+      due("weeks(" + n + ")", real.weeks(n), model.weeks(n));
+    }
+    while (calls < 220 && !bad) {
       step(heavy);
     }
   }
@@ -219,6 +224,27 @@ public final class OracleTest {
       default:
         due("fewest(" + week + ")", real.fewest(week), model.fewest(week));
         break;
+    }
+  }
+
+  /** While some are still in the rock, which they are in the first weeks alone. */
+  private void thinkAll() {
+    for (int b = 0; b < model.look(0); b++) {
+      due("slack(" + b + ")", real.slack(b), model.slack(b));
+    }
+    for (int v = 0; v < 4; v++) {
+      due("without(" + v + ")", real.without(v), model.without(v));
+    }
+    int week = model.look(2) + upTo(30);
+    due("closes()", real.closes(), model.closes());
+    due("spare()", real.spare(), model.spare());
+    due("help(0)", real.help(0), model.help(0));
+    due("help(1)", real.help(1), model.help(1));
+    due("fewest(" + week + ")", real.fewest(week), model.fewest(week));
+    if (model.look(0) < 5) {
+      for (int what : new int[] {0, 10, 11, 12, 13}) {
+        due("soonest(" + what + ")", real.soonest(what), model.soonest(what));
+      }
     }
   }
 

@@ -87,12 +87,24 @@ public final class TextsTest {
     Check.due("law stays", c.look(9), 2);
     Check.due("faulty plan", Check.tell(c, 3, "wait 1;wait"), NONE);
     Check.due("plan stays", c.look(12), 15);
+    Check.due("a way behind faulty texts", Check.tell(c, 1, "road 7;"), 1);
+    Check.row("the dome stays", new int[] {c.look(0), c.of(0, 0), c.of(2, 3)}, 3, 20, 3);
     Check.due("empty law", Check.tell(c, 2, ""), 0);
     Check.due("no lines", c.look(9), 0);
     Check.due("empty plan", Check.tell(c, 3, " \n "), 0);
     Check.due("most blocks", Check.tell(c, 0, Check.blocks(14)), 14);
     Check.due("most stretches", Check.tell(c, 1, "bridge 9;".repeat(8)), 8);
     Check.due("most lines", Check.tell(c, 2, "haul 1;".repeat(16)), 16);
+    Check.row("no neighbours are left of the dome ahead", new int[] {c.of(1, 3), c.of(2, 3)}, 0, 0);
+    c.set(3, 9);
+    c.weeks(2);
+    Check.due("some are laid", Check.tell(c, 0, Check.blocks(2)), 2);
+    Check.row("LAID, SINCE, apart", Check.looks(c, 4, 6, 11), 0, NONE, 0);
+    Check.tell(c, 1, "");
+    c.weeks(2);
+    Check.row("LAID, SINCE, apart", Check.looks(c, 4, 6, 11), 2, 0, 2);
+    Check.tell(c, 1, "");
+    Check.row("LAID, SINCE, apart", Check.looks(c, 4, 6, 11), 0, NONE, 0);
   }
 
   private static void toldAnew(int k) {
@@ -259,6 +271,12 @@ public final class TextsTest {
     faulty(1, "road 1;;", 1, 7);
     faulty(1, "road;", 1, 4);
     faulty(1, "path 1;", 1, 0);
+    faulty(1, " roadA 1;", 1, 1);
+    faulty(1, " roadZ 1;", 1, 1);
+    faulty(1, "road 1;zroad 1;", 1, 7);
+    faulty(1, "road 1;roada 1;", 1, 7);
+    faulty(1, "road[1;", 1, 4);
+    faulty(1, "road@1;", 1, 4);
     faulty(1, "river 1;".repeat(8) + "river 0;", 3, 64);
     faulty(1, "river 1;".repeat(8) + "rivers", 1, 64);
     fine(1, "bridge 9;road 99;hill 1;", 3);

@@ -8,6 +8,7 @@ public final class ThoughtTest {
     closesInThought();
     soonest();
     soonestOfSome();
+    soonestOfEachOrder();
     soonestChanges();
     slack();
     spare();
@@ -139,7 +140,22 @@ public final class ThoughtTest {
     Check.due("west, east, west", g.closes(), 3);
     DomeCalendar h = Check.make("block 4 of 0 west;block 4 of 0 west;block 4 of 0 east after 1;", "");
     h.set(10, 4);
-    Check.due("never", h.closes(), NONE);
+    Check.due("the first of the west alone", h.closes(), NONE);
+    h.rank(1, 0);
+    Check.due("the second first", h.closes(), 3);
+    DomeCalendar i = Check.make("block 9 of 0 west;block 2 of 0 west;", "hill 10;road 20;");
+    i.set(0, 18);
+    i.set(3, 2);
+    i.weeks(1);
+    i.set(0, 9);
+    Check.row("one is behind the hill, one on it", new int[] {i.of(0, 5), i.of(1, 5)}, 1, 0);
+    Check.due("9 are enough behind the hill", i.closes(), 5);
+    i.set(4, 0);
+    i.weeks(2);
+    i.set(0, 4);
+    i.set(4, 1);
+    Check.row("one at the dome", Check.where(i), 3, 2);
+    Check.due("none is needed at the dome", i.closes(), 5);
   }
 
   private static void soonest() {
@@ -188,6 +204,53 @@ public final class ThoughtTest {
     Check.due("none is left", c.soonest(10), NONE);
   }
 
+  /** One is cut a week, and only if the slow ones are cut first all are there in the week that all can be. */
+  private static void soonestOfEachOrder() {
+    Check.promise(18);
+    for (int number = 0; number < 720; number += 7) {
+      int[] row = permutation(number);
+      int[] size = new int[6];
+      for (int i = 0; i < 6; i++) {
+        size[row[i]] = 6 - i;
+      }
+      StringBuilder dome = new StringBuilder();
+      for (int b = 0; b < 6; b++) {
+        dome.append("block ").append(size[b]).append(" of 0 west;");
+      }
+      DomeCalendar c = Check.make(dome.toString(), "road 60;");
+      c.set(0, 99);
+      c.set(1, 9999);
+      c.set(4, 9);
+      Check.tell(c, 2, "haul 10 when size=6;haul 12 when size=5;haul 15 when size=4;haul 20 when size=3;"
+          + "haul 30 when size=2;haul 60;");
+      Check.due("the week of order " + number, c.soonest(0), 5);
+      for (int i = 0; i < 6; i++) {
+        Check.due("order " + number + " [" + i + "]", c.soonest(10 + i), row[i]);
+      }
+    }
+  }
+
+  private static int[] permutation(int number) {
+    int[] row = new int[6];
+    boolean[] used = new boolean[6];
+    int[] weight = {120, 24, 6, 2, 1, 1};
+    int rest = number;
+    for (int i = 0; i < 6; i++) {
+      int skip = rest / weight[i];
+      rest %= weight[i];
+      int b = 0;
+      while (used[b] || skip-- > 0) {
+        b++;
+        while (used[b]) {
+          b++;
+        }
+      }
+      used[b] = true;
+      row[i] = b;
+    }
+    return row;
+  }
+
   private static void soonestChanges() {
     Check.promise(18);
     DomeCalendar c = Check.make(Check.blocks(3), "road 20;");
@@ -221,6 +284,11 @@ public final class ThoughtTest {
     c.plan();
     c.plan();
     Check.due("behind a plan: all are laid", c.soonest(0), NONE);
+    DomeCalendar d = Check.make(Check.blocks(3), "");
+    d.weeks(2);
+    Check.row("the laid as they stand", new int[] {d.soonest(10), d.soonest(11), d.soonest(12)}, 2, 0, 1);
+    d.rank(1, 0);
+    Check.row("behind rank", new int[] {d.soonest(10), d.soonest(11), d.soonest(12)}, 2, 1, 0);
   }
 
   private static void slack() {
@@ -315,6 +383,15 @@ public final class ThoughtTest {
     e.set(3, 0);
     Check.due("never", e.fewest(200), NONE);
     Check.due("no blocks", new DomeCalendar().fewest(5), NONE);
+    // Of 99 with one to eat 49 die and 50 are left; of 98 it is 49.
+    DomeCalendar f = Check.make("block 20 of 0 west;block 20 of 0 west;block 10 of 0 west;", "road 10;");
+    f.set(1, 1);
+    f.set(2, 0);
+    f.set(3, 3);
+    f.set(4, 3);
+    Check.due("just 99", f.fewest(0), 99);
+    Check.tell(f, 0, "block 20 of 0 west;block 20 of 0 west;block 11 of 0 west;");
+    Check.due("99 are not enough", f.fewest(0), NONE);
   }
 
   private static void can() {
@@ -520,6 +597,18 @@ public final class ThoughtTest {
     f.set(4, 2);
     Check.row("of several the first", new int[] {f.help(0), f.help(1)}, 3, 1);
     Check.due("no blocks", new DomeCalendar().help(0), NONE);
+    DomeCalendar g = Check.make("block 20 of 0 west;block 20 of 0 west;block 10 of 0 west;", "hill 10;");
+    g.set(0, 99);
+    g.set(1, 9999);
+    g.set(3, 3);
+    g.set(4, 3);
+    Check.row("100 oxen can't be", new int[] {g.closes(), g.help(0), g.help(1)}, 1, NONE, NONE);
+    g.set(0, 98);
+    Check.tell(g, 1, "road 10;");
+    Check.tell(g, 0, "block 20 of 0 west;block 20 of 0 west;block 20 of 0 west;block 20 of 0 west;block 19 of 0 west;");
+    g.set(3, 5);
+    g.set(4, 5);
+    Check.row("99 can", new int[] {g.closes(), g.help(0), g.help(1)}, 1, 0, 0);
   }
 
   private static void nothingStays() {

@@ -351,6 +351,15 @@ public final class WeeksTest {
     e.set(7, 1000);
     e.weeks(1);
     Check.due("a road is no river", e.of(0, 6), 10);
+    // From 0 the first draw is 563.
+    DomeCalendar f = Check.make("block 1 of 0 west;", "river 99;road 9;");
+    f.set(7, 563);
+    f.weeks(1);
+    Check.due("not below FLOOD", f.of(0, 5), 0);
+    f.state(0);
+    f.set(7, 564);
+    f.weeks(1);
+    Check.due("below FLOOD", f.of(0, 5), 1);
   }
 
   private static void laying() {
@@ -458,11 +467,27 @@ public final class WeeksTest {
     c.vein(0, true);
     c.weeks(1);
     Check.row("dry: none", Check.where(c), 4, 3, 0, 0);
+    int second = 1664525 * 1013904223 + 1013904223;
+    int bound = (second >>> 8) % 1000;
+    c.set(6, 1000);
+    c.set(8, bound);
+    c.state(0);
+    c.weeks(1);
+    Check.row("not below SPLIT", Check.where(c), 4, 3, 0, 0);
+    Check.due("a draw all the same", c.look(8), second);
+    c.set(8, bound + 1);
+    c.state(0);
+    c.weeks(1);
+    Check.row("below SPLIT", Check.where(c), 4, 0, 0, 0);
+    c.vein(1, true);
+    c.set(6, 0);
+    c.weeks(1);
+    Check.row("cut in its new vein", Check.where(c), 4, 3, 0, 3);
     c.set(8, 0);
     c.set(6, 1000);
     c.state(0);
     c.weeks(1);
-    Check.row("SPLIT 0: none", Check.where(c), 4, 3, 0, 0);
+    Check.row("SPLIT 0: none", Check.where(c), 4, 3, 0, 3);
     Check.due("and no draw", c.look(8), 1013904223);
   }
 

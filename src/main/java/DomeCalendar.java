@@ -1780,8 +1780,9 @@ public final class DomeCalendar {
         j--;
       }
       swapFree(i, j);
-      for (int a = i + 1, z = count - 1; a < z; a++, z--) {
-        swapFree(a, z);
+      // What stands behind place i falls by number: turned round it rises.
+      for (int a = i + 1; a < count + i - a; a++) {
+        swapFree(a, count + i - a);
       }
       return true;
     }

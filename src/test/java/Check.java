@@ -1,22 +1,30 @@
+import java.util.ArrayList;
+import java.util.List;
+
 /** What the tests of the promises share: telling texts, and counting what is not as due. */
-final class Check {
+abstract class Check {
   static final int NONE = DomeCalendar.NONE;
   private static int wrong = 0;
   private static int asked = 0;
-  private static int promise = 0;
-
-  private Check() {
-  }
+  private static String about = "";
 
   static void promise(int number) {
-    promise = number;
+    about = "promise " + number;
+  }
+
+  static void about(String test) {
+    about = test;
+  }
+
+  static int asked() {
+    return asked;
   }
 
   static void due(String what, long got, long want) {
     asked++;
     if (got != want) {
       wrong++;
-      System.out.println("promise " + promise + ": " + what + " answered " + got + ", due is " + want);
+      System.out.println(about + ": " + what + " answered " + got + ", due is " + want);
     }
   }
 
@@ -79,6 +87,31 @@ final class Check {
       row[i] = c.look(what[i]);
     }
     return row;
+  }
+
+  /** All that the class shows of itself, but what can be undone. */
+  static int[] all(DomeCalendar c) {
+    List<Integer> row = new ArrayList<>();
+    for (int what = 0; what < 44; what++) {
+      if (what != 10 && (what < 13 || what > 19 && what < 32 || what > 39)) {
+        row.add(c.look(what));
+      }
+    }
+    for (int b = 0; b < c.look(0); b++) {
+      row.add(c.order(b));
+      for (int what = 0; what < 15; what++) {
+        row.add(c.of(b, what));
+      }
+    }
+    for (int k = 0; k < c.look(1); k++) {
+      for (int what = 0; what < 3; what++) {
+        row.add(c.stretch(k, what));
+      }
+    }
+    for (int i = 0; i < c.look(7); i++) {
+      row.add(c.book(i, 0) * 10000 + c.book(i, 1) * 100 + c.book(i, 2) * 10 + c.book(i, 3));
+    }
+    return row.stream().mapToInt(Integer::intValue).toArray();
   }
 
   static void line(DomeCalendar c, int i, int week, int block, int what, int stretch) {

@@ -44,41 +44,18 @@ public final class MemoryTest {
     return c;
   }
 
-  static int[] all(DomeCalendar c) {
-    int[] row = new int[700];
-    int n = 0;
-    for (int what = 0; what < 44; what++) {
-      row[n++] = what == 10 ? 0 : c.look(what);
-    }
-    for (int b = 0; b < 14; b++) {
-      row[n++] = c.order(b);
-      for (int what = 0; what < 15; what++) {
-        row[n++] = c.of(b, what);
-      }
-    }
-    for (int k = 0; k < 8; k++) {
-      for (int what = 0; what < 3; what++) {
-        row[n++] = c.stretch(k, what);
-      }
-    }
-    for (int i = 0; i < 200; i++) {
-      row[n++] = c.book(i, 0) * 10000 + c.book(i, 1) * 100 + c.book(i, 2) * 10 + c.book(i, 3);
-    }
-    return row;
-  }
-
   private static void undoTakesAllBack() {
     Check.promise(30);
     DomeCalendar c = stormy();
     for (int i = 0; i < 70; i++) {
-      int[] before = all(c);
+      int[] before = Check.all(c);
       c.weeks(1);
-      int[] behind = all(c);
+      int[] behind = Check.all(c);
       c.rank(i % 4, i % 3);
       Check.due("undo", c.undo(), true);
-      Check.row("all went back, ORDER too", all(c), before);
+      Check.row("all went back, ORDER too", Check.all(c), before);
       c.weeks(1);
-      Check.row("the same draws again", all(c), behind);
+      Check.row("the same draws again", Check.all(c), behind);
       c.rank(i % 3, i % 4);
     }
     Check.due("some fell", c.look(5) > 0, true);
@@ -121,7 +98,7 @@ public final class MemoryTest {
       d.undo();
     }
     e.weeks(47);
-    Check.row("as if", all(d), all(e));
+    Check.row("as if", Check.all(d), Check.all(e));
   }
 
   private static void forgets(String what, DomeCalendar c, boolean forgotten) {
@@ -196,20 +173,20 @@ public final class MemoryTest {
     Check.due("none yet changes nothing", c.look(10), 4);
     Check.due("taken", c.image(true), true);
     Check.due("what can be undone stays", c.look(10), 4);
-    int[] then = all(c);
+    int[] then = Check.all(c);
     c.weeks(9);
-    int[] later = all(c);
+    int[] later = Check.all(c);
     for (int i = 0; i < 3; i++) {
       Check.due("gone back to", c.image(false), true);
-      Check.row("as it was", all(c), then);
+      Check.row("as it was", Check.all(c), then);
       Check.due("nothing can be undone", c.undo(), false);
       c.weeks(9);
-      Check.row("all goes on alike", all(c), later);
+      Check.row("all goes on alike", Check.all(c), later);
     }
     Check.due("taken anew", c.image(true), true);
     c.weeks(1);
     c.image(false);
-    Check.row("the latest one", all(c), later);
+    Check.row("the latest one", Check.all(c), later);
   }
 
   private static void imageKeepsAll() {
@@ -220,7 +197,7 @@ public final class MemoryTest {
     c.vein(2, false);
     c.rank(3, 0);
     c.weeks(5);
-    int[] then = all(c);
+    int[] then = Check.all(c);
     int closes = c.closes();
     long ways = c.ways(2);
     c.image(true);
@@ -239,14 +216,14 @@ public final class MemoryTest {
     Check.tell(c, 0, "block 1 x");
     Check.feed(c, "road 1;");
     c.image(false);
-    Check.row("all that is and was told", all(c), then);
+    Check.row("all that is and was told", Check.all(c), then);
     Check.due("closes", c.closes(), closes);
     Check.due("ways", c.ways(2), ways);
     Check.row("but fault()", new int[] {c.fault(0), c.fault(1)}, 1, 8);
     Check.due("but the tape", c.text(1), 1);
     Check.due("a way of one road", c.stretch(0, 1), 1);
     c.image(false);
-    Check.row("more than once", all(c), then);
+    Check.row("more than once", Check.all(c), then);
   }
 
   private static void look() {

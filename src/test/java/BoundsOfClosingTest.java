@@ -114,6 +114,24 @@ public final class BoundsOfClosingTest extends Bounds {
     due("4 have no calves", d.closes(), NONE);
   }
 
+  @Says("NONE if not by then")
+  static void promise17InBalanceAtTheEnd() {
+    for (String half : new String[] {"west", "east"}) {
+      DomeCalendar c = dome("block 3 of 0 " + half + ";block 2 of 0 " + half + ";");
+      int[] due = {NONE, 1, 1};
+      for (int balance = 4; balance <= 6; balance++) {
+        settings(c, BALANCE, balance);
+        due("5 of the " + half + ", BALANCE " + balance, c.closes(), due[balance - 4]);
+      }
+    }
+    DomeCalendar c = dome("block 3 of 0 west;block 8 of 0 east;");
+    int[] due = {NONE, 1, 1};
+    for (int balance = 4; balance <= 6; balance++) {
+      settings(c, BALANCE, balance);
+      due("3 and 8, BALANCE " + balance, c.closes(), due[balance - 4]);
+    }
+  }
+
   @Says("IN THOUGHT (nothing of it stays; no DRAWS: dry, no floods, none split).")
   static void promise17DryNoFloodsNoneSplit() {
     DomeCalendar c = make(blocks(1), "river 30;");
@@ -146,6 +164,69 @@ public final class BoundsOfClosingTest extends Bounds {
       // Laid in WEEK 0, the other comes and closes it in WEEK 2; with CENTRE 1 it has fallen in WEEK 1 and is laid anew.
       due("CENTRE " + centre, c.closes(), centre == 1 ? 3 : 2);
     }
+  }
+
+  @Says("if it goes on so")
+  static void promise17WhatFallsCanCloseBehindThat() {
+    // The fast one is laid at once, and with it the slow ones can't be; when it has fallen, all can by ORDER.
+    DomeCalendar c = make("block 4 of 0 west;block 5 of 0 west;block 5 of 0 east after 1;", "river 30;");
+    text(c, 2, "haul 30 when size=4;haul 10;", 2);
+    settings(c, CUTTERS, 3, MASONS, 3, BALANCE, 5);
+    c.rank(0, 2);
+    due("never", c.closes(), NONE);
+    for (int centre = 3; centre <= 5; centre++) {
+      settings(c, CENTRE, centre);
+      due("laid anew behind the fall of WEEK " + centre, c.closes(), centre + 1);
+    }
+    settings(c, CENTRE, 298);
+    due("the last WEEK of all", c.closes(), 299);
+    settings(c, CENTRE, 299);
+    due("a WEEK too late", c.closes(), NONE);
+  }
+
+  @Says("300 WEEKS from now at most")
+  static void promise17CalvesOfTheLastWeek() {
+    // 5 are 31 in WEEK 312, by a fifth each half year, and 26 up to then; a hill needs 28 for 14.
+    for (int now = 11; now <= 14; now++) {
+      DomeCalendar c = make("block 14 of 0 west;", "hill 9;");
+      goTo(c, now);
+      settings(c, OXEN, 5, GRASS, 9999, GROW, 99);
+      due("from WEEK " + now, c.closes(), now < 13 ? NONE : 312);
+      due("fewest from WEEK " + now + " by WEEK 312", c.fewest(312) <= 5, now >= 13);
+    }
+  }
+
+  @Says("if it goes on so")
+  static void promise17GrassToTheLast() {
+    // 10 eat 260 up to WEEK 26 and 12 eat 12 in it; with one less one of them dies ahead of the hauling.
+    for (int grass = 271; grass <= 273; grass++) {
+      DomeCalendar c = make("block 12 of 0 west;", "road 10;");
+      settings(c, GRASS, grass, GROW, 0);
+      due("GRASS " + grass, c.closes(), grass < 272 ? NONE : 26);
+    }
+  }
+
+  @Says("if it goes on so")
+  static void promise17WhoIsBehindTheHill() {
+    DomeCalendar c = make("block 9 of 0 west;block 2 of 0 west;", "hill 10;road 20;");
+    settings(c, OXEN, 18, CUTTERS, 2);
+    c.weeks(1);
+    row("one is behind the hill, one on it", ints(c.of(0, 5), c.of(1, 5)), 1, 0);
+    settings(c, OXEN, 8);
+    due("8 are too few on the road, until they calve in WEEK 26", c.closes(), 27);
+    settings(c, OXEN, 9);
+    due("9 are enough on the road", c.closes(), 5);
+    settings(c, MASONS, 0);
+    c.weeks(2);
+    settings(c, MASONS, 1, OXEN, 3);
+    row("one at the dome, one on the hill", where(c), 3, 2);
+    due("3 are too few for the hill", c.closes(), NONE);
+    settings(c, OXEN, 4);
+    due("4 are enough", c.closes(), 5);
+    c.weeks(3);
+    settings(c, OXEN, 0, CUTTERS, 0);
+    row("both laid", where(c), 4, 4);
+    due("none is needed", c.closes(), 5);
   }
 
   // ---- promise 18: soonest
@@ -213,6 +294,88 @@ public final class BoundsOfClosingTest extends Bounds {
     d.rank(2, 0);
     d.rank(1, 1);
     row("all alike", places(d, 3), 0, 1, 2);
+  }
+
+  @Says("that which CLOSES soonest")
+  static void promise18ByOneWeek() {
+    DomeCalendar c = make("block 1 of 0 west;block 2 of 0 west;", "river 30;");
+    text(c, 2, "haul 15 when size=2;haul 30;", 2);
+    settings(c, MASONS, 2);
+    due("as it stands", c.closes(), 2);
+    row("the other ORDER", ints(c.soonest(0), c.soonest(10), c.soonest(11)), 1, 1, 0);
+  }
+
+  /** One is cut a WEEK, and the slower it is the sooner it must be: one ORDER alone is the soonest. */
+  private static void oneOrder(int... order) {
+    int n = order.length;
+    int[] size = new int[n];
+    for (int i = 0; i < n; i++) {
+      size[order[i]] = n - i;
+    }
+    StringBuilder dome = new StringBuilder();
+    for (int b = 0; b < n; b++) {
+      dome.append("block ").append(size[b]).append(" of 0 west;");
+    }
+    DomeCalendar c = make(dome.toString(), "river 60;");
+    text(c, 2, "haul 10 when size=6;haul 12 when size=5;haul 15 when size=4;haul 20 when size=3;haul 30 when size=2;haul 60;", 6);
+    settings(c, MASONS, 9);
+    due("the WEEK", c.soonest(0), n - 1);
+    row("the ORDER", places(c, n), order);
+  }
+
+  @Says("of all ORDERS of those that are not LAID (6 at most)")
+  static void promise18EachOrder() {
+    oneOrder(0);
+    oneOrder(0, 1);
+    oneOrder(1, 0);
+    oneOrder(0, 1, 2);
+    oneOrder(0, 2, 1);
+    oneOrder(1, 0, 2);
+    oneOrder(1, 2, 0);
+    oneOrder(2, 0, 1);
+    oneOrder(2, 1, 0);
+    oneOrder(0, 1, 2, 3, 4, 5);
+    oneOrder(0, 1, 2, 3, 5, 4);
+    oneOrder(0, 5, 4, 3, 2, 1);
+    oneOrder(1, 0, 2, 3, 4, 5);
+    oneOrder(2, 5, 4, 3, 1, 0);
+    oneOrder(3, 0, 1, 2, 4, 5);
+    oneOrder(5, 4, 3, 2, 0, 1);
+    oneOrder(5, 4, 3, 2, 1, 0);
+  }
+
+  @Says("SOONEST: of all ORDERS")
+  static void promise18AsAllStandsNow() {
+    DomeCalendar c = make(blocks(3), "river 20;");
+    due("at first", c.soonest(0), 3);
+    settings(c, MASONS, 3, CUTTERS, 3);
+    due("behind set", c.soonest(0), 1);
+    text(c, 2, "haul 20;", 1);
+    due("behind a law", c.soonest(0), 0);
+    c.image(true);
+    c.vein(0, false);
+    due("behind vein", c.soonest(0), NONE);
+    c.image(false);
+    due("behind the image", c.soonest(0), 0);
+    settings(c, CUTTERS, 1, MASONS, 1);
+    c.weeks(1);
+    row("behind weeks", ints(c.soonest(0), c.soonest(10), c.soonest(12)), 2, 1, 0);
+    c.undo();
+    row("behind undo", ints(c.soonest(0), c.soonest(10), c.soonest(12)), 2, 0, 2);
+    c.weeks(2);
+    row("two laid", places(c, 3), 2, 0, 1);
+    c.rank(1, 0);
+    row("behind rank", places(c, 3), 2, 1, 0);
+    text(c, 1, "river 21;", 1);
+    due("behind a way", c.soonest(0), 3);
+    text(c, 0, blocks(2), 2);
+    due("behind a dome", c.soonest(0), 2);
+    text(c, 3, "wait 2;", 1);
+    due("behind a plan's text", c.soonest(0), 2);
+    c.plan();
+    row("behind a plan: one is left", ints(c.soonest(0), c.soonest(10), c.soonest(11)), 2, 1, 0);
+    c.plan();
+    due("all laid", c.soonest(0), NONE);
   }
 
   @Says("none closes by then")

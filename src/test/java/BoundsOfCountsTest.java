@@ -155,7 +155,20 @@ public final class BoundsOfCountsTest extends Bounds {
     due("0 in all, the first alone 1", c.ways(2), 0);
     settings(c, BALANCE, 1);
     due("0 in all, BALANCE 1", c.ways(2), 2);
+    // One order alone: 3, 0, 1 apart.
+    text(c, 0, "block 3 of 0 west;block 3 of 0 east after 0;block 1 of 0 west after 1;", 3);
+    settings(c, BALANCE, 2);
+    due("3, 0, 1, BALANCE 2", c.ways(2), 0);
+    settings(c, BALANCE, 3);
+    due("3, 0, 1, BALANCE 3", c.ways(2), 1);
+    // And 1, -2, 1.
+    text(c, 0, "block 1 of 0 west;block 3 of 0 east after 0;block 3 of 0 west after 1;", 3);
+    settings(c, BALANCE, 1);
+    due("1, 2, 1, BALANCE 1", c.ways(2), 0);
+    settings(c, BALANCE, 2);
+    due("1, 2, 1, BALANCE 2", c.ways(2), 1);
     text(c, 0, "block1of0west;block1of0east;".repeat(7), 14);
+    settings(c, BALANCE, 1);
     // Pairs of one each, in either order: 7! * 7! * 2 ^ 7.
     due("seven and seven, BALANCE 1", c.ways(2), factorial(7) * factorial(7) * 128);
     text(c, 0, "block20of0west;".repeat(14), 14);

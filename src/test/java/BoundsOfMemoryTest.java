@@ -2,6 +2,7 @@
 public final class BoundsOfMemoryTest extends Bounds {
   private static final int OXEN = 0;
   private static final int CUTTERS = 3;
+  private static final int MASONS = 4;
   private static final int RAIN = 6;
   private static final int FLOOD = 7;
   private static final int SPLIT = 8;
@@ -117,6 +118,32 @@ public final class BoundsOfMemoryTest extends Bounds {
     d.vein(1, true);
     d.weeks(1);
     line(d, 199, 197, 1, 0, 0);
+  }
+
+  /** Fourteen, each of which has waited for something, and a BOOK of many lines. */
+  private static DomeCalendar fourteen() {
+    DomeCalendar c = make("block1of0west;block2of1east;".repeat(7), "river 9;bridge 1;road 20;hill 9;");
+    settings(c, OXEN, 9, 1, 9999, CUTTERS, 9, RAIN, 500, SPLIT, 300, FROST, 9, CENTRE, 4, MASONS, 2);
+    c.weeks(30);
+    for (int b = 0; b < 14; b++) {
+      due("waited", c.of(b, 10) + c.of(b, 11) + c.of(b, 12) + c.of(b, 13) + c.of(b, 14) > 0, true);
+    }
+    return c;
+  }
+
+  @Says("goes back")
+  static void promise30FourteenGoBack() {
+    DomeCalendar c = fourteen();
+    int[] before = all(c);
+    c.weeks(5);
+    for (int i = 0; i < 5; i++) {
+      c.undo();
+    }
+    unchanged("undo of five WEEKS", c, before, 0);
+    c.image(true);
+    c.weeks(9);
+    c.image(false);
+    unchanged("going back to the image", c, before, 0);
   }
 
   private static DomeCalendar threeWeeksOn() {
@@ -248,8 +275,8 @@ public final class BoundsOfMemoryTest extends Bounds {
     c.weeks(9);
     int[] then = all(c);
     c.image(true);
-    text(c, 0, blocks(1), 1);
-    text(c, 1, "bridge 1;", 1);
+    text(c, 0, "block 1 of 1 east;block 1 of 1 east;", 2);
+    text(c, 1, "river 1;bridge 1;", 2);
     text(c, 2, "", 0);
     text(c, 3, "", 0);
     for (int k = 0; k < 12; k++) {
@@ -259,13 +286,17 @@ public final class BoundsOfMemoryTest extends Bounds {
     c.vein(0, false);
     c.state(1);
     c.weeks(20);
+    due("another book", c.look(7) > 4, true);
     tell(c, 3, " x");
     feed(c, "road 6;");
     due("gone back to", c.image(false), true);
     unchanged("gone back to", c, then, 0);
     row("fault() stays", ints(c.fault(0), c.fault(1)), 1, 1);
     due("the tape stays", c.text(1), 1);
-    row("road 6", ints(c.stretch(0, 0), c.stretch(0, 1)), 0, 6);
+    row("road 6, and the dome of the image", ints(c.stretch(0, 0), c.stretch(0, 1), c.look(1), c.look(0), c.of(0, 0)), 0, 6, 1, 4, 3);
+    c.image(false);
+    text(c, 0, blocks(1), 1);
+    row("the way of the image", ints(c.look(1), c.stretch(1, 1)), 2, 20);
     c.image(false);
     row("and once more", all(c), then);
     due("its plan", c.plan(), 2);

@@ -3,6 +3,8 @@ public final class BoundsOfTextsTest extends Bounds {
   private static final int MIN = Integer.MIN_VALUE;
   private static final int MAX = Integer.MAX_VALUE;
   private static final int BLANKS = 0x20202020;
+  private static final int CUTTERS = 3;
+  private static final int MASONS = 4;
 
   public static void main(String[] args) {
     run(BoundsOfTextsTest.class);
@@ -73,6 +75,11 @@ public final class BoundsOfTextsTest extends Bounds {
     faulty(1, " ".repeat(393) + "road 50", 1, 400);
     faulty(1, " ".repeat(399) + "x", 1, 399);
     fine(2, "haul " + "1+".repeat(196) + "1; ", 1);
+    // As many TOKENS as there are bytes.
+    faulty(0, ";".repeat(400), 1, 0);
+    faulty(2, "haul 1 when " + "1+".repeat(194), 1, 400);
+    faulty(3, "wait1;".repeat(66) + "wait", 1, 400);
+    fine(2, "haul 1 when " + "1+".repeat(192) + "1=1;", 1);
   }
 
   // ---- promise 7: end
@@ -174,6 +181,23 @@ public final class BoundsOfTextsTest extends Bounds {
       due("it closes as before", c.closes(), closes);
       due("its PLAN as before", c.plan(), 2);
     }
+  }
+
+  @Says("it stays as it was")
+  static void promise8TheOtherTextBehindAFault() {
+    DomeCalendar c = full();
+    due("a dome that is broken off", tell(c, 0, "block 9 of 0 east;block 9 of 0 east;block"), NONE);
+    text(c, 1, "hill 7;", 1);
+    row("the dome as it was", ints(c.look(0), c.of(0, 0), c.of(0, 1), c.of(0, 2), c.of(1, 3), c.of(2, 0)), 3, 3, 1, 0, 1, 2);
+    due("a way that is broken off", tell(c, 1, "bridge 9;bridge 9;bridge"), NONE);
+    text(c, 0, "block 1 of 1 west;block 1 of 1 west;", 2);
+    row("the way as it was", ints(c.look(1), c.stretch(0, 0), c.stretch(0, 1), c.stretch(1, 0)), 1, 1, 7, NONE);
+    due("a law that is broken off", tell(c, 2, "haul 1;haul"), NONE);
+    due("a plan that is broken off", tell(c, 3, "wait 9;wait"), NONE);
+    row("lines, STEPS", looks(c, 9, 12), 2, 2);
+    c.weeks(1);
+    due("over the hill by the law as it was", c.look(4), 1);
+    due("by the plan as it was", c.plan(), 2);
   }
 
   @Says("The TAPE, empty then, is TEXT k")
@@ -289,6 +313,26 @@ public final class BoundsOfTextsTest extends Bounds {
     }
   }
 
+  @Says("SINCE none, WEEK 0")
+  static void promise8EitherToldWhenSomeOrAllAreLaid() {
+    for (int k = 0; k < 2; k++) {
+      for (int laid = 1; laid <= 2; laid++) {
+        DomeCalendar c = dome("block 3 of 0 west;block 2 of 0 west;");
+        settings(c, CUTTERS, 2, MASONS, laid);
+        due("laid", c.weeks(1), laid);
+        row("ahead: SINCE, apart", looks(c, 6, 11), 0, laid == 1 ? 3 : 5);
+        text(c, k, k == 0 ? "block 3 of 0 west;block 2 of 0 west;" : "", k == 0 ? 2 : 0);
+        row("WEEK, LAID, SINCE, apart, lines", looks(c, 2, 4, 6, 11, 7), 0, 0, NONE, 0, 0);
+        row("closes, can", ints(c.closes(), c.can()), laid == 1 ? 1 : 0, 0);
+        settings(c, CUTTERS, 0);
+        c.weeks(3);
+        settings(c, CUTTERS, 2);
+        due("laid anew", c.weeks(1), laid);
+        row("SINCE, apart", looks(c, 6, 11), 3, laid == 1 ? 3 : 5);
+      }
+    }
+  }
+
   @Says("Either told: all BLOCKS are in the ROCK")
   static void promise8TheLawAndAPlanBeginNothingAnew() {
     DomeCalendar c = full();
@@ -324,6 +368,29 @@ public final class BoundsOfTextsTest extends Bounds {
     // The neighbours of the letters among the signs are none.
     for (char c : "@[`{".toCharArray()) {
       faulty(1, "road" + c + "1;", 1, 4);
+    }
+  }
+
+  @Says("letters as many as stand together are KEYWORDS (those told here for that text) or none")
+  static void promise8EachLetterOfAKeyword() {
+    String[][] texts = {
+      {"block 1 of 0 west ;", "block 1 of 0 east ;", "block1of0west;block 1 of 0 west after 0 and 0 ;"},
+      {"road 1 ;", "hill 1 ;", "river 1 ;", "bridge 1 ;"},
+      {"haul sort ;", "haul size ;", "haul mud ;", "haul wet ;", "haul left ;", "haul week ;", "haul grease ;", "haul oxen ;",
+        "haul 1 when 1=1 or not 1=1 and 1=1 ;"},
+      {"wait 1 ;", "rank 1 to 1 ;", "hire 1 ;", "sell 1 ;", "open 1 ;", "shut 1 ;", "cutters 1 ;", "masons 1 ;", "again 1 ( wait 1 ; )"}};
+    for (int k = 0; k < 4; k++) {
+      for (String text : texts[k]) {
+        due(text, tell(new DomeCalendar(), k, text) > 0, true);
+        for (int from = 0; from < text.length(); from++) {
+          boolean begins = Character.isLetter(text.charAt(from)) && (from == 0 || !Character.isLetter(text.charAt(from - 1)));
+          for (int i = from; begins && Character.isLetter(text.charAt(i)); i++) {
+            faulty(k, text.substring(0, i) + "q" + text.substring(i + 1), 1, from);
+            faulty(k, text.substring(0, i) + Character.toUpperCase(text.charAt(i)) + text.substring(i + 1), 1, from);
+            faulty(k, text.substring(0, i) + "q" + text.substring(i), 1, from);
+          }
+        }
+      }
     }
   }
 

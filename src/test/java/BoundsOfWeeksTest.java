@@ -315,6 +315,20 @@ public final class BoundsOfWeeksTest extends Bounds {
     row("four are left", ints(e.look(20), e.of(0, 6), e.of(0, 10)), 4, 0, 1);
   }
 
+  @Says("on a river none")
+  static void promise10OnARiverNone() {
+    for (int oxen = 4; oxen <= 6; oxen++) {
+      DomeCalendar c = make("block 3 of 0 west;block 5 of 1 west;", "road 10;river 99;");
+      c.vein(1, false);
+      c.weeks(1);
+      c.vein(1, true);
+      settings(c, OXEN, oxen);
+      c.weeks(1);
+      // Who is on the river neither takes nor brings an ox.
+      row("OXEN " + oxen, ints(c.of(0, 5), c.of(0, 6), c.of(1, 5), c.of(1, 10)), 1, 10, oxen < 5 ? 0 : 1, oxen < 5 ? 1 : 0);
+    }
+  }
+
   @Says("Who waits has no team.")
   static void promise10WhoWaitsHasNoTeam() {
     DomeCalendar c = make("block 9 of 0 west;block 8 of 0 west;", "road 99;");

@@ -8,6 +8,23 @@ import java.util.regex.Pattern;
 
 /** What the tests of the bounds share. A test is a static method named by its promise, with the words it holds to. */
 abstract class Bounds extends Check {
+  static final int MIN = Integer.MIN_VALUE;
+  static final int MAX = Integer.MAX_VALUE;
+
+  // As set() tells them.
+  static final int OXEN = 0;
+  static final int GRASS = 1;
+  static final int GROW = 2;
+  static final int CUTTERS = 3;
+  static final int MASONS = 4;
+  static final int GREASE = 5;
+  static final int RAIN = 6;
+  static final int FLOOD = 7;
+  static final int SPLIT = 8;
+  static final int FROST = 9;
+  static final int BALANCE = 10;
+  static final int CENTRE = 11;
+
   private static final Pattern NAME = Pattern.compile("promise(\\d+)\\w+");
   private static final int TIMES = 1664525;
   private static final int MORE = 1013904223;

@@ -1,20 +1,5 @@
 /** Promises 17 to 21, 28 and 29 at their bounds: when it CLOSES, and by what sooner or no later. */
 public final class BoundsOfClosingTest extends Bounds {
-  private static final int OXEN = 0;
-  private static final int GRASS = 1;
-  private static final int GROW = 2;
-  private static final int CUTTERS = 3;
-  private static final int MASONS = 4;
-  private static final int GREASE = 5;
-  private static final int RAIN = 6;
-  private static final int FLOOD = 7;
-  private static final int SPLIT = 8;
-  private static final int FROST = 9;
-  private static final int BALANCE = 10;
-  private static final int CENTRE = 11;
-  private static final int MIN = Integer.MIN_VALUE;
-  private static final int MAX = Integer.MAX_VALUE;
-
   public static void main(String[] args) {
     run(BoundsOfClosingTest.class);
   }

@@ -33,7 +33,7 @@ public final class BoundsOfFaultsTest extends Bounds {
     row("no text yet", ints(c.fault(0), c.fault(1)), 0, NONE);
     tell(c, 0, " x");
     row("a FAULT", ints(c.fault(0), c.fault(1)), 1, 1);
-    for (int what : ints(-1, 2, 3, Integer.MIN_VALUE, Integer.MAX_VALUE)) {
+    for (int what : ints(-1, 2, 3, MIN, MAX)) {
       due("fault(" + what + ")", c.fault(what), NONE);
     }
     row("asked for once more", ints(c.fault(0), c.fault(1)), 1, 1);

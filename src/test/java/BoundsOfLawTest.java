@@ -214,13 +214,13 @@ public final class BoundsOfLawTest extends Bounds {
     }
     for (int size : ints(1, 20)) {
       DomeCalendar c = make("block " + size + " of 0 west;", "road 99;");
-      settings(c, 0, 99, 1, 9999);
+      settings(c, OXEN, 99, GRASS, 9999);
       text(c, 2, "haul size*4;", 1);
       c.weeks(1);
       due("size", c.of(0, 6), size * 4);
     }
     DomeCalendar c = make("block 3 of 0 west;block 3 of 0 west;", "road 99;");
-    settings(c, 3, 2);
+    settings(c, CUTTERS, 2);
     text(c, 2, "haul left-90;", 1);
     c.weeks(1);
     due("left 99", c.of(0, 6), 9);
@@ -232,7 +232,7 @@ public final class BoundsOfLawTest extends Bounds {
     due("of both", c.of(1, 4), 3);
     for (int grease : ints(0, 9)) {
       DomeCalendar g = make("block 3 of 0 west;", "road 99;");
-      settings(g, 5, grease);
+      settings(g, GREASE, grease);
       text(g, 2, "haul 1+grease*10;", 1);
       g.weeks(1);
       due("grease", g.of(0, 6), 1 + grease * 10);
@@ -242,7 +242,7 @@ public final class BoundsOfLawTest extends Bounds {
   @Says("oxen: OXEN (all there are)")
   static void promise8AllOxenThereAre() {
     DomeCalendar c = make("block 5 of 0 west;block 5 of 0 west;block 5 of 0 west;", "road 99;");
-    settings(c, 3, 3, 0, 20, 1, 14, 2, 0);
+    settings(c, CUTTERS, 3, OXEN, 20, GRASS, 14, GROW, 0);
     text(c, 2, "haul oxen;", 1);
     c.weeks(1);
     // Six got nothing and three died ahead of the hauling; two teams leave seven free.
@@ -253,10 +253,10 @@ public final class BoundsOfLawTest extends Bounds {
   static void promise8MudWetAndWeek() {
     DomeCalendar c = make("block 3 of 0 west;", "road 99;");
     text(c, 2, "haul mud*10+wet*3;", 1);
-    settings(c, 6, 1000);
+    settings(c, RAIN, 1000);
     c.weeks(1);
     due("wet, MUD 2 by this rain", c.of(0, 6), 23);
-    settings(c, 6, 0);
+    settings(c, RAIN, 0);
     c.weeks(1);
     due("dry, MUD 1", c.of(0, 6), 33);
     c.weeks(1);

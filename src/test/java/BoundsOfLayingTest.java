@@ -1,15 +1,5 @@
 /** Promise 10 at its bounds: laying, frost, balance, splitting, falling, calves, THE BOOK and who WAITED. */
 public final class BoundsOfLayingTest extends Bounds {
-  private static final int OXEN = 0;
-  private static final int GRASS = 1;
-  private static final int CUTTERS = 3;
-  private static final int MASONS = 4;
-  private static final int RAIN = 6;
-  private static final int SPLIT = 8;
-  private static final int FROST = 9;
-  private static final int BALANCE = 10;
-  private static final int CENTRE = 11;
-
   public static void main(String[] args) {
     run(BoundsOfLayingTest.class);
   }
@@ -419,7 +409,7 @@ public final class BoundsOfLayingTest extends Bounds {
   static void promise10OneThingBehindTheOther() {
     // Rain, grass, cutting, hauling and laying in one WEEK, each by what the one ahead of it left.
     DomeCalendar c = make("block 8 of 0 west;", "road 45;");
-    settings(c, RAIN, 1000, OXEN, 10, GRASS, 0, 2, 3);
+    settings(c, RAIN, 1000, OXEN, 10, GRASS, 0, GROW, 3);
     text(c, 2, "haul mud*10+wet*5+oxen*2+4;", 1);
     due("MUD 2, wet, 8 oxen: 45", c.weeks(1), 1);
     due("OXEN", c.look(20), 8);

@@ -1,8 +1,5 @@
 /** Promises 13 to 16 and 32 at their bounds: what is asked of BLOCKS, STRETCHES, ORDER, THE BOOK, and all else. */
 public final class BoundsOfLooksTest extends Bounds {
-  private static final int MIN = Integer.MIN_VALUE;
-  private static final int MAX = Integer.MAX_VALUE;
-
   public static void main(String[] args) {
     run(BoundsOfLooksTest.class);
   }
@@ -14,8 +11,8 @@ public final class BoundsOfLooksTest extends Bounds {
   static void promise13What() {
     DomeCalendar c = make("block 7 of 3 east;block 2 of 1 west after 0;", "road 30;");
     c.rank(1, 0);
-    c.set(0, 6);
-    c.set(3, 2);
+    c.set(OXEN, 6);
+    c.set(CUTTERS, 2);
     c.weeks(2);
     int[] first = {7, 3, 1, 0, 2, 0, 0, 1, -2, -2, 2, 0, 0, 0, 0};
     int[] second = {2, 1, 0, 1, 2, 0, 20, 0, -2, -2, 0, 0, 0, 0, 0};
@@ -49,14 +46,14 @@ public final class BoundsOfLooksTest extends Bounds {
   static void promise13NotOnTheWay() {
     DomeCalendar c = make("block 1 of 0 west;", "river 10;river 20;");
     row("in the rock", ints(c.of(0, 4), c.of(0, 5), c.of(0, 6)), 0, NONE, NONE);
-    c.set(4, 0);
+    c.set(MASONS, 0);
     c.weeks(1);
     row("on the way", ints(c.of(0, 4), c.of(0, 5), c.of(0, 6)), 2, 1, 0);
     c.weeks(1);
     row("on the way", ints(c.of(0, 4), c.of(0, 5), c.of(0, 6)), 2, 1, 10);
     c.weeks(1);
     row("at the dome", ints(c.of(0, 4), c.of(0, 5), c.of(0, 6)), 3, NONE, NONE);
-    c.set(4, 1);
+    c.set(MASONS, 1);
     c.weeks(1);
     row("laid", ints(c.of(0, 4), c.of(0, 5), c.of(0, 6)), 4, NONE, NONE);
     text(c, 1, "river 9;", 1);
@@ -88,7 +85,7 @@ public final class BoundsOfLooksTest extends Bounds {
   @Says("2 how many are on it")
   static void promise14HowManyAreOnIt() {
     DomeCalendar c = make("block1of0west;".repeat(14), "river 50;river 50;");
-    c.set(3, 7);
+    c.set(CUTTERS, 7);
     due("none", c.stretch(0, 2), 0);
     c.weeks(1);
     row("seven", ints(c.stretch(0, 2), c.stretch(1, 2)), 7, 0);
@@ -160,10 +157,10 @@ public final class BoundsOfLooksTest extends Bounds {
     DomeCalendar c = make("block 1 of 0 west;block 5 of 0 east;block 1 of 1 west;", "river 10;bridge 9;");
     text(c, 2, "haul 30;haul 20;haul 9;", 3);
     text(c, 3, "again 3(wait 2;hire 1;)", 6);
-    c.set(3, 2);
-    c.set(4, 2);
-    c.set(6, 1000);
-    c.set(11, 3);
+    c.set(CUTTERS, 2);
+    c.set(MASONS, 2);
+    c.set(RAIN, 1000);
+    c.set(CENTRE, 3);
     c.vein(1, false);
     c.weeks(2);
     int[] due = {3, 2, 2, 4, 2, 0, 1, 10, next(next(0)), 3, 2, -4, 6};

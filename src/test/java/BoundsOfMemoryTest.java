@@ -1,23 +1,7 @@
 /** Promises 30 and 31 at their bounds: WEEKS undone, and THE IMAGE. */
 public final class BoundsOfMemoryTest extends Bounds {
-  private static final int OXEN = 0;
-  private static final int CUTTERS = 3;
-  private static final int MASONS = 4;
-  private static final int RAIN = 6;
-  private static final int FLOOD = 7;
-  private static final int SPLIT = 8;
-  private static final int FROST = 9;
-  private static final int CENTRE = 11;
-
   public static void main(String[] args) {
     run(BoundsOfMemoryTest.class);
-  }
-
-  private static DomeCalendar stormy() {
-    DomeCalendar c = make("block 3 of 0 west;block 2 of 3 east;block 1 of 1 west after 0;block 20 of 2 east;", "river 15;road 20;");
-    c.state(77);
-    settings(c, OXEN, 8, 1, 20, 2, 8, CUTTERS, 2, RAIN, 600, FLOOD, 300, SPLIT, 500, FROST, 8, CENTRE, 3);
-    return c;
   }
 
   // ---- promise 30: undo
@@ -123,7 +107,7 @@ public final class BoundsOfMemoryTest extends Bounds {
   /** Fourteen, each of which has waited for something, and a BOOK of many lines. */
   private static DomeCalendar fourteen() {
     DomeCalendar c = make("block1of0west;block2of1east;".repeat(7), "river 9;bridge 1;road 20;hill 9;");
-    settings(c, OXEN, 9, 1, 9999, CUTTERS, 9, RAIN, 500, SPLIT, 300, FROST, 9, CENTRE, 4, MASONS, 2);
+    settings(c, OXEN, 9, GRASS, 9999, CUTTERS, 9, RAIN, 500, SPLIT, 300, FROST, 9, CENTRE, 4, MASONS, 2);
     c.weeks(30);
     for (int b = 0; b < 14; b++) {
       due("waited", c.of(b, 10) + c.of(b, 11) + c.of(b, 12) + c.of(b, 13) + c.of(b, 14) > 0, true);

@@ -1,11 +1,5 @@
 /** Promises 11 and 12 at their bounds: A PLAN that is told, and what it would bring. */
 public final class BoundsOfPlanTest extends Bounds {
-  private static final int OXEN = 0;
-  private static final int CUTTERS = 3;
-  private static final int MASONS = 4;
-  private static final int RAIN = 6;
-  private static final int CENTRE = 11;
-
   public static void main(String[] args) {
     run(BoundsOfPlanTest.class);
   }
@@ -192,7 +186,7 @@ public final class BoundsOfPlanTest extends Bounds {
     DomeCalendar c = dome(blocks(3));
     text(c, 3, "wait 2;", 1);
     row("planned", ints(c.planned(0), c.planned(1)), 2, 2);
-    for (int what : ints(-1, 2, 3, 10, Integer.MIN_VALUE, Integer.MAX_VALUE)) {
+    for (int what : ints(-1, 2, 3, 10, MIN, MAX)) {
       due("planned(" + what + ")", c.planned(what), NONE);
     }
     text(c, 3, "shut 0;", 1);
@@ -266,7 +260,7 @@ public final class BoundsOfPlanTest extends Bounds {
   @Says("(nothing of it stays; no DRAWS: dry, no floods, none split)")
   static void promise12NothingOfItStays() {
     DomeCalendar c = make("block 3 of 0 west;block 3 of 1 east;block 2 of 2 west;", "river 30;road 15;");
-    settings(c, CUTTERS, 2, RAIN, 1000, 7, 1000, 8, 1000, 9, 3, CENTRE, 2);
+    settings(c, CUTTERS, 2, RAIN, 1000, FLOOD, 1000, SPLIT, 1000, FROST, 3, CENTRE, 2);
     text(c, 3, "rank 0 to 2;hire 9;shut 1;cutters 9;masons 9;wait 9;", 6);
     c.weeks(2);
     int[] before = all(c);
@@ -274,7 +268,7 @@ public final class BoundsOfPlanTest extends Bounds {
     c.planned(1);
     unchanged("planned", c, before, 2);
     DomeCalendar d = make(blocks(1), "river 30;");
-    settings(d, RAIN, 1000, 7, 1000);
+    settings(d, RAIN, 1000, FLOOD, 1000);
     text(d, 2, "haul 10 when wet=0;haul 1;", 2);
     text(d, 3, "wait 2;", 1);
     due("dry, no floods", d.planned(0), 0);

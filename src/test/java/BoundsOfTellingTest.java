@@ -3,9 +3,6 @@ import java.util.List;
 
 /** Promises 1 to 5 at their bounds: a new object, and what one call tells. */
 public final class BoundsOfTellingTest extends Bounds {
-  private static final int MIN = Integer.MIN_VALUE;
-  private static final int MAX = Integer.MAX_VALUE;
-
   public static void main(String[] args) {
     run(BoundsOfTellingTest.class);
   }
@@ -56,7 +53,7 @@ public final class BoundsOfTellingTest extends Bounds {
   static void promise1AllVeinsAreOpen() {
     DomeCalendar c = dome("block 1 of 0 west;block 1 of 1 west;block 1 of 2 west;block 1 of 3 west;");
     row("veins", looks(c, 40, 41, 42, 43), 1, 1, 1, 1);
-    settings(c, 3, 4, 4, 4);
+    settings(c, CUTTERS, 4, MASONS, 4);
     due("each is cut and laid", c.weeks(1), 4);
   }
 
@@ -117,7 +114,7 @@ public final class BoundsOfTellingTest extends Bounds {
   @Says("a DRAW of m: it becomes 1664525 times itself + 1013904223 (ints, which wrap)")
   static void promise2DrawsWrap() {
     DomeCalendar c = new DomeCalendar();
-    settings(c, 6, 1);
+    settings(c, RAIN, 1);
     for (int v : ints(0, 1, -1, MAX, MAX - 1, MIN, MIN + 1, stateBefore(0), stateBefore(-1), stateBefore(MIN))) {
       c.state(v);
       c.weeks(1);
@@ -142,7 +139,7 @@ public final class BoundsOfTellingTest extends Bounds {
   private static boolean wet(int state, int rain) {
     DomeCalendar c = new DomeCalendar();
     c.state(state);
-    c.set(6, Math.max(0, rain));
+    c.set(RAIN, Math.max(0, rain));
     c.weeks(1);
     return c.look(3) == 2;
   }
@@ -280,7 +277,7 @@ public final class BoundsOfTellingTest extends Bounds {
   static void promise4EachVeinAlone() {
     for (int v = 0; v < 4; v++) {
       DomeCalendar c = dome("block 1 of 0 west;block 1 of 1 west;block 1 of 2 west;block 1 of 3 west;");
-      settings(c, 3, 9, 4, 9);
+      settings(c, CUTTERS, 9, MASONS, 9);
       c.vein(v, false);
       due("laid with " + v + " shut", c.weeks(1), 3);
       due("in the rock", c.of(v, 4), 0);

@@ -1,10 +1,6 @@
 /** Promises 6 to 8 at their bounds: the TAPE, and the TEXTS that stand. */
 public final class BoundsOfTextsTest extends Bounds {
-  private static final int MIN = Integer.MIN_VALUE;
-  private static final int MAX = Integer.MAX_VALUE;
   private static final int BLANKS = 0x20202020;
-  private static final int CUTTERS = 3;
-  private static final int MASONS = 4;
 
   public static void main(String[] args) {
     run(BoundsOfTextsTest.class);
@@ -137,7 +133,7 @@ public final class BoundsOfTextsTest extends Bounds {
     DomeCalendar c = make("block 3 of 1 west;block 4 of 2 east after 0;block 2 of 3 west;", "road 15;river 20;");
     text(c, 2, "haul 9;haul 8;", 2);
     text(c, 3, "wait 2;hire 1;", 2);
-    settings(c, 6, 700, 3, 2);
+    settings(c, RAIN, 700, CUTTERS, 2);
     c.rank(2, 0);
     c.vein(0, false);
     c.weeks(3);
@@ -294,7 +290,7 @@ public final class BoundsOfTextsTest extends Bounds {
       DomeCalendar c = make(dome, "");
       text(c, 2, "haul 4;", 1);
       text(c, 3, "hire 1;sell 1;", 2);
-      settings(c, 3, 2, 6, 1000, 8, 1000, 9, 1, 11, 1);
+      settings(c, CUTTERS, 2, RAIN, 1000, SPLIT, 1000, FROST, 1, CENTRE, 1);
       c.vein(1, false);
       c.weeks(2);
       c.rank(0, 2);

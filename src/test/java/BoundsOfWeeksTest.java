@@ -1,13 +1,5 @@
 /** Promise 10 at its bounds: how many WEEKS go by, the weather, the herd, the cutting and the way. */
 public final class BoundsOfWeeksTest extends Bounds {
-  private static final int OXEN = 0;
-  private static final int GRASS = 1;
-  private static final int GROW = 2;
-  private static final int CUTTERS = 3;
-  private static final int MASONS = 4;
-  private static final int RAIN = 6;
-  private static final int FLOOD = 7;
-
   public static void main(String[] args) {
     run(BoundsOfWeeksTest.class);
   }
@@ -20,7 +12,7 @@ public final class BoundsOfWeeksTest extends Bounds {
     settings(c, RAIN, 500);
     due("weeks(1)", c.weeks(1), 1);
     int[] before = all(c);
-    for (int n : ints(0, -1, 61, 62, Integer.MIN_VALUE, Integer.MAX_VALUE)) {
+    for (int n : ints(0, -1, 61, 62, MIN, MAX)) {
       due("weeks(" + n + ")", c.weeks(n), NONE);
     }
     unchanged("a refused weeks", c, before, 1);

@@ -69,6 +69,22 @@ abstract class Check {
     return c;
   }
 
+  /** One in which it rains, floods, splits and falls. */
+  static DomeCalendar stormy() {
+    DomeCalendar c = make("block 3 of 0 west;block 2 of 3 east;block 1 of 1 west after 0;block 20 of 2 east;", "river 15;road 20;");
+    c.state(77);
+    c.set(0, 8);
+    c.set(1, 20);
+    c.set(2, 8);
+    c.set(3, 2);
+    c.set(6, 600);
+    c.set(7, 300);
+    c.set(8, 500);
+    c.set(9, 8);
+    c.set(11, 3);
+    return c;
+  }
+
   static String blocks(int n) {
     return "block 1 of 0 west;".repeat(n);
   }

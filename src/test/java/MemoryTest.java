@@ -29,24 +29,9 @@ public final class MemoryTest {
     Check.row("WEEK, LAID, lines, undone", Check.looks(c, 2, 4, 7, 10), 1, 1, 3, 1);
   }
 
-  private static DomeCalendar stormy() {
-    DomeCalendar c = Check.make("block 3 of 0 west;block 2 of 3 east;block 1 of 1 west after 0;block 20 of 2 east;", "river 15;road 20;");
-    c.state(77);
-    c.set(0, 8);
-    c.set(1, 20);
-    c.set(2, 8);
-    c.set(3, 2);
-    c.set(6, 600);
-    c.set(7, 300);
-    c.set(8, 500);
-    c.set(9, 8);
-    c.set(11, 3);
-    return c;
-  }
-
   private static void undoTakesAllBack() {
     Check.promise(30);
-    DomeCalendar c = stormy();
+    DomeCalendar c = Check.stormy();
     for (int i = 0; i < 70; i++) {
       int[] before = Check.all(c);
       c.weeks(1);
@@ -68,7 +53,7 @@ public final class MemoryTest {
 
   private static void undoneFive() {
     Check.promise(30);
-    DomeCalendar c = stormy();
+    DomeCalendar c = Check.stormy();
     c.weeks(3);
     c.weeks(60);
     Check.due("five are kept", c.look(10), 5);
@@ -91,8 +76,8 @@ public final class MemoryTest {
     Check.due("WEEK", c.look(2), 59);
     Check.due("no more", c.undo(), false);
     // A year in one call, undone, is the same as if its last weeks had never been.
-    DomeCalendar d = stormy();
-    DomeCalendar e = stormy();
+    DomeCalendar d = Check.stormy();
+    DomeCalendar e = Check.stormy();
     d.weeks(52);
     for (int i = 0; i < 5; i++) {
       d.undo();
@@ -167,7 +152,7 @@ public final class MemoryTest {
 
   private static void image() {
     Check.promise(31);
-    DomeCalendar c = stormy();
+    DomeCalendar c = Check.stormy();
     Check.due("none yet", c.image(false), false);
     c.weeks(4);
     Check.due("none yet changes nothing", c.look(10), 4);
@@ -191,7 +176,7 @@ public final class MemoryTest {
 
   private static void imageKeepsAll() {
     Check.promise(31);
-    DomeCalendar c = stormy();
+    DomeCalendar c = Check.stormy();
     Check.tell(c, 2, "haul 3;haul 4;");
     Check.tell(c, 3, "wait 3;hire 2;");
     c.vein(2, false);

@@ -109,6 +109,12 @@ public final class BoundsOfClosingTest extends Bounds {
         due("5 of the " + half + ", BALANCE " + balance, c.closes(), due[balance - 4]);
       }
     }
+    // Even at the end, and never behind the first.
+    DomeCalendar even = dome("block1of0west;block1of0east;".repeat(7));
+    settings(even, CUTTERS, 9, MASONS, 9, BALANCE, 0);
+    due("seven and seven, BALANCE 0", even.closes(), NONE);
+    settings(even, BALANCE, 1);
+    due("seven and seven, BALANCE 1", even.closes(), 1);
     DomeCalendar c = dome("block 3 of 0 west;block 8 of 0 east;");
     int[] due = {NONE, 1, 1};
     for (int balance = 4; balance <= 6; balance++) {
@@ -212,6 +218,12 @@ public final class BoundsOfClosingTest extends Bounds {
     settings(c, OXEN, 0, CUTTERS, 0);
     row("both laid", where(c), 4, 4);
     due("none is needed", c.closes(), 5);
+    DomeCalendar d = make(blocks(2), "road 10;");
+    settings(d, CUTTERS, 2, MASONS, 0);
+    d.weeks(1);
+    settings(d, OXEN, 0, GRASS, 0, MASONS, 1);
+    row("none is needed at the dome", ints(d.of(1, 4), d.closes()), 3, 2);
+    row("nor for the last one", ints(d.weeks(1), d.closes(), d.fewest(2)), 1, 2, 0);
   }
 
   // ---- promise 18: soonest
@@ -256,6 +268,12 @@ public final class BoundsOfClosingTest extends Bounds {
     row("the one, then the laid ones", places(c, 9), 6, 3, 7, 0, 1, 2, 4, 5, NONE);
     c.weeks(1);
     row("none", ints(c.soonest(0), c.soonest(10)), NONE, NONE);
+    DomeCalendar all = dome("block1of0west;".repeat(14));
+    all.weeks(7);
+    due("seven of fourteen", all.soonest(0), NONE);
+    all.weeks(1);
+    due("six of fourteen", all.soonest(0), 13);
+    row("six, and eight behind them", places(all, 15), 8, 9, 10, 11, 12, 13, 0, 1, 2, 3, 4, 5, 6, 7, NONE);
     DomeCalendar none = new DomeCalendar();
     row("no blocks", ints(none.soonest(0), none.soonest(10)), NONE, NONE);
     DomeCalendar seven = dome(blocks(7));

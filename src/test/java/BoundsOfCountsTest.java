@@ -301,6 +301,16 @@ public final class BoundsOfCountsTest extends Bounds {
     row("bridge 1, oxen 1: the least", ints(d.of(1, 10), d.of(1, 11), d.blame(0), d.blame(1)), 1, 1, 0, 1);
   }
 
+  @Says("by all BLOCKS together")
+  static void promise26AllFourteen() {
+    DomeCalendar c = make("block1of0west;".repeat(14), "road 9;");
+    settings(c, CUTTERS, 9, OXEN, 0);
+    c.weeks(1);
+    row("nine", ints(c.blame(0), c.blame(1)), 0, 9);
+    c.weeks(1);
+    row("nine and fourteen", ints(c.blame(0), c.blame(1), c.of(13, 10)), 0, 23, 1);
+  }
+
   // ---- promise 27: herd
 
   @Says("HERD what 0 OXEN, 1 GRASS, 2 MUD. NONE if one can't be, or another what.")

@@ -441,6 +441,12 @@ public final class BoundsOfWeeksTest extends Bounds {
     settings(e, FLOOD, 1000);
     e.weeks(1);
     row("a hill", ints(e.of(0, 5), e.of(0, 6)), 0, 10);
+    DomeCalendar all = make("block1of0west;".repeat(14), "river 99;road 99;");
+    settings(all, CUTTERS, 9, FLOOD, 1000);
+    all.weeks(1);
+    due("nine of fourteen", all.stretch(1, 2), 9);
+    all.weeks(1);
+    due("all fourteen", all.stretch(1, 2), 14);
     DomeCalendar f = make(blocks(2), "bridge 1;river 99;");
     settings(f, CUTTERS, 2, FLOOD, 1000);
     f.weeks(1);

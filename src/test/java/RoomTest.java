@@ -5,6 +5,7 @@ import java.lang.management.ManagementFactory;
 public final class RoomTest {
   private static final ThreadMXBean ROOM = (ThreadMXBean) ManagementFactory.getThreadMXBean();
   private static int wrong = 0;
+  private static long behindFirst = 0;
 
   public static void main(String[] args) {
     run();
@@ -14,7 +15,8 @@ public final class RoomTest {
     keep(made < 60000, "a new object makes " + made + " bytes");
     long whole = run();
     // The image and the row of ways are made once; nothing else is made by a call.
-    keep(whole < 60000 + 60000 + 300000, "a run of 512 calls makes " + whole + " bytes");
+    keep(whole < 60000 + 60000 + 300000, "a run of 484 calls makes " + whole + " bytes");
+    keep(behindFirst == 0, "calls that were made before make " + behindFirst + " bytes more");
     long start = System.nanoTime();
     heaviest();
     long millis = (System.nanoTime() - start) / 1000000;
@@ -36,12 +38,13 @@ public final class RoomTest {
     c.feed(a, b, d, e, f);
   }
 
-  /** Of each kind of call many, 512 in all; answers what was made in them. */
+  /** Of each kind of call many, 484 in all; answers what was made in them. */
   private static long run() {
     long before = ROOM.getCurrentThreadAllocatedBytes();
     DomeCalendar c = new DomeCalendar();
     int sum = 0;
-    for (int i = 0; i < 16; i++) {
+    long afterFirst = 0;
+    for (int i = 0; i < 11; i++) {
       // "block 1 of 0 west;" six times over.
       for (int k = 0; k < 6; k++) {
         words(c, 0x626C6F63, 0x6B203120, 0x6F662030, 0x20776573, 0x743B2020);
@@ -58,8 +61,11 @@ public final class RoomTest {
       c.undo();
       c.image(true);
       c.image(false);
-      sum += c.blame(0) + c.look(3) + c.chain(3);
+      sum += c.blame(0) + c.look(3) + c.chain(3) + c.of(1, 7) + c.stretch(0, 2) + c.order(0) + c.book(0, 0) + c.fault(0);
+      sum += c.took(0, 0) + c.can() + c.herd(9, 0) + c.state(i) + (c.set(6, 300) && c.vein(0, true) && c.rank(1, 0) ? 1 : 0);
+      afterFirst = i == 0 ? ROOM.getCurrentThreadAllocatedBytes() : afterFirst;
     }
+    behindFirst = ROOM.getCurrentThreadAllocatedBytes() - afterFirst;
     return sum == Integer.MIN_VALUE ? 0 : ROOM.getCurrentThreadAllocatedBytes() - before;
   }
 
